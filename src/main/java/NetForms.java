@@ -23,7 +23,7 @@ public final class NetForms {
     private final Walls walls = new Walls();
     private final Wave motion = new Wave();
     private final Balance balance = new Balance();
-    private final Heights heights = new Heights();
+    private final Climb climb = new Climb();
     // Results are made here first: a refused call must leave its target as it was, and the target may be a source.
     private final long[] made = new long[MOST_NUMBERS];
 
@@ -214,12 +214,12 @@ public final class NetForms {
         if (source.degree != 1) {
             return NO;
         }
-        int forbidding = heights.climb(shape, source);
+        int forbidding = climb.along(shape, source);
         if (forbidding != NONE) {
             return forbidding;
         }
         for (int p = 0; p < shape.points; p++) {
-            made[p] = heights.aboveLeast(p);
+            made[p] = climb.aboveLeast(p);
         }
         return giveMade(target, 0) == BEYOND ? BEYOND : NONE;
     }
@@ -708,6 +708,7 @@ public final class NetForms {
         }
     }
 
+    /** A number counts only where a wall is there. */
     private static final class Walls {
         final boolean[] there = new boolean[MOST_POINTS];
         final int[] numbers = new int[MOST_POINTS];
@@ -715,7 +716,6 @@ public final class NetForms {
         void begin() {
             for (int p = 0; p < MOST_POINTS; p++) {
                 there[p] = false;
-                numbers[p] = 0;
             }
         }
 
@@ -783,12 +783,12 @@ public final class NetForms {
     }
 
     /** Climbs a form of degree 1 edge by edge, in the order in which they came. */
-    private static final class Heights {
+    private static final class Climb {
         private final long[] climbed = new long[MOST_POINTS];
         private final int[] leasts = new int[MOST_POINTS];
 
         /** NONE, or the first edge whose round does not close. */
-        int climb(Net shape, Form w) {
+        int along(Net shape, Form w) {
             for (int p = 0; p < MOST_POINTS; p++) {
                 climbed[p] = 0;
                 leasts[p] = p;
@@ -827,8 +827,9 @@ public final class NetForms {
     /**
      * Solves equations whose factors are alike on both sides of the diagonal and are sums of squares, exactly and in
      * whole numbers: every number on the way is a minor of the table, so each division leaves no rest. Such a table
-     * has a 0 on its diagonal only where the whole row has become 0: the unknown there is free, and is taken as 0.
-     * Net and limits are so small that no number on the way comes near the bounds of a long.
+     * has a 0 on its diagonal only where the whole row has become 0, its due too, as all that is asked here has an
+     * answer: the unknown there is free, and is taken as 0. Net and limits are so small that no number on the way
+     * comes near the bounds of a long.
      */
     private static final class Balance {
         private static final int MOST_UNKNOWNS = 10;
@@ -836,7 +837,6 @@ public final class NetForms {
         private int size;
         private final long[][] table = new long[MOST_UNKNOWNS][MOST_UNKNOWNS];
         private final long[] dues = new long[MOST_UNKNOWNS];
-        private final boolean[] free = new boolean[MOST_UNKNOWNS];
         int rank;
         long below;
 
@@ -845,7 +845,6 @@ public final class NetForms {
             for (int i = 0; i < size; i++) {
                 Arrays.fill(table[i], 0L);
                 dues[i] = 0;
-                free[i] = false;
             }
         }
 
@@ -862,7 +861,6 @@ public final class NetForms {
             below = 1;
             for (int k = 0; k < size; k++) {
                 long pivot = table[k][k];
-                free[k] = pivot == 0;
                 if (pivot != 0) {
                     for (int i = 0; i < size; i++) {
                         clear(i, k, pivot);
@@ -885,7 +883,7 @@ public final class NetForms {
         }
 
         long above(int unknown) {
-            return free[unknown] ? 0 : dues[unknown];
+            return dues[unknown];
         }
     }
 }

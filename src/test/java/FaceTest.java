@@ -97,6 +97,10 @@ public final class FaceTest {
         for (String word : RULED_OUT) {
             check.due("the source has '" + word + "'", code.contains(word) ? 1 : 0, 0);
         }
+        for (String line : code.split("\n")) {
+            boolean isRow = line.contains(" final ") || line.trim().equals("forms[f] = new Form();");
+            check.due("objects made by a call: " + line.trim(), line.contains("new ") && !isRow ? 1 : 0, 0);
+        }
         check.due("imports beside java.util.Arrays",
             code.replace("import java.util.Arrays;", "").contains("import") ? 1 : 0, 0);
         check.due("characters above 255", source.chars().filter(c -> c > 255).count(), 0);

@@ -20,7 +20,71 @@ public final class ModelTest {
         for (long seed = start; seed < start + runs; seed++) {
             run(seed);
         }
+        fullNet(new int[] {0, 1, 0, 2, 0, 3, 0, 4, 1, 2, 1, 3, 1, 4, 2, 3, 2, 4, 3, 4, 0, 5, 1, 5});
+        fullNet(new int[] {3, 5, 2, 4, 0, 2, 1, 4, 0, 3, 1, 5, 0, 4, 2, 5, 1, 2, 3, 4, 0, 5, 1, 3});
         check.end();
+    }
+
+    /** All points and edges and as many plates as there can be, and the greatest numbers that a split takes. */
+    private static void fullNet(int[] pairs) {
+        Random random = new Random(pairs[1]);
+        for (int i = 0; i < 12; i++) {
+            NetForms x = new NetForms();
+            Model model = new Model();
+            ask(i, x, model, "net", new int[] {6});
+            for (int e = 0; e < 24; e += 2) {
+                ask(i, x, model, "edge", new int[] {pairs[e], pairs[e + 1]});
+            }
+            for (int abc = 0; abc < 216; abc++) {
+                int[] plate = {abc / 36, abc / 6 % 6, abc % 6};
+                if (plate[0] < plate[1] && plate[1] < plate[2] && (i < 2 || random.nextInt(3) > 0)) {
+                    ask(i, x, model, "face", plate);
+                }
+            }
+            fill(i, x, model, random);
+            askAll(i, x, model);
+        }
+    }
+
+    private static void fill(long seed, NetForms x, Model model, Random random) {
+        for (int degree = 0; degree < 3; degree++) {
+            ask(seed, x, model, "form", new int[] {degree, degree});
+            for (int k = 0; k < 12; k++) {
+                int size = seed % 2 == 0 ? 1000 : random.nextInt(1001);
+                ask(seed, x, model, "set", new int[] {degree, k, random.nextBoolean() ? size : -size});
+            }
+        }
+        for (int p = 0; p < 1 + seed % 5; p++) {
+            ask(seed, x, model, "wall", new int[] {random.nextInt(6), random.nextInt(2001) - 1000});
+        }
+    }
+
+    private static void askAll(long seed, NetForms x, Model model) {
+        for (int what = 0; what < 2; what++) {
+            for (int e = 0; e < 12; e++) {
+                for (int part = 0; part < 3; part++) {
+                    ask(seed, x, model, "split", new int[] {1, part, e, what});
+                }
+            }
+            for (int p = 0; p < 6; p++) {
+                ask(seed, x, model, "fieldAt", new int[] {p, what});
+            }
+        }
+        for (int degree = 0; degree < 3; degree++) {
+            ask(seed, x, model, "holes", new int[] {degree});
+            for (int what = 0; what < 4; what++) {
+                ask(seed, x, model, "about", new int[] {degree, what});
+            }
+            ask(seed, x, model, "slope", new int[] {degree, 4 + degree});
+            ask(seed, x, model, "rim", new int[] {degree, 7 + degree});
+            ask(seed, x, model, "mix", new int[] {degree, 3, degree, -7, 11});
+            ask(seed, x, model, "cup", new int[] {degree, 0, 3});
+            ask(seed, x, model, "cup", new int[] {degree, 1, 3});
+            ask(seed, x, model, "raise", new int[] {degree});
+            ask(seed, x, model, "wave", new int[] {100});
+        }
+        ask(seed, x, model, "potential", new int[] {1, 10});
+        ask(seed, x, model, "potential", new int[] {4, 10});
     }
 
     private static void run(long seed) {
