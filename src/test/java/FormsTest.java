@@ -19,16 +19,8 @@ public final class FormsTest {
         check.end();
     }
 
-    /** Two plates 0, 1, 2 and 0, 2, 3; edges 01, 12, 02, 23, 03. */
-    private static NetForms kite() {
-        NetForms x = Check.net(4, 0, 1, 1, 2, 0, 2, 2, 3, 0, 3);
-        x.face(0, 1, 2);
-        x.face(0, 2, 3);
-        return x;
-    }
-
     private static void form() {
-        NetForms x = kite();
+        NetForms x = Nets.kite();
         int[] sizes = {4, 5, 2};
         for (int degree = 0; degree < 3; degree++) {
             check.due("form(11, " + degree + ")", x.form(11, degree), 1);
@@ -47,7 +39,7 @@ public final class FormsTest {
     }
 
     private static void setAndGet() {
-        NetForms x = kite();
+        NetForms x = Nets.kite();
         x.form(2, 1);
         check.due("set(2, 4, 1000000)", x.set(2, 4, MILLION), 0);
         check.due("set(2, 4, -1000000)", x.set(2, 4, -MILLION), MILLION);
@@ -85,7 +77,7 @@ public final class FormsTest {
     }
 
     private static void slope() {
-        NetForms x = kite();
+        NetForms x = Nets.kite();
         Check.form(x, 0, 0, 10, 13, 9, -4);
         check.due("slope(0, 1)", x.slope(0, 1), 1);
         check.dueForm("slope(0, 1)", x, 1, 1, 3, -4, -1, -13, -14);
@@ -113,7 +105,7 @@ public final class FormsTest {
     }
 
     private static void rim() {
-        NetForms x = kite();
+        NetForms x = Nets.kite();
         Check.form(x, 0, 1, 3, 4, 7, 1, 9);
         check.due("rim(0, 3)", x.rim(0, 3), 0);
         check.dueForm("rim(0, 3)", x, 3, 0, -19, -1, 10, 10);
@@ -135,7 +127,7 @@ public final class FormsTest {
     }
 
     private static void rimOfPlates() {
-        NetForms x = kite();
+        NetForms x = Nets.kite();
         Check.form(x, 0, 2, 5, 7);
         check.due("rim(0, 1), degree 2", x.rim(0, 1), 1);
         check.dueForm("rim(0, 1), degree 2", x, 1, 1, 5, 5, 2, 7, -7);
@@ -151,7 +143,7 @@ public final class FormsTest {
     }
 
     private static void slopeOfSlopeIsZero() {
-        NetForms x = kite();
+        NetForms x = Nets.kite();
         Check.form(x, 0, 0, 11, -5, 8, 3);
         x.slope(0, 1);
         x.slope(1, 2);
@@ -159,7 +151,7 @@ public final class FormsTest {
     }
 
     private static void cup() {
-        NetForms x = kite();
+        NetForms x = Nets.kite();
         int[][] numbers = {{2, 3, 5, 7}, {11, 13, 17, 19, 23}, {29, 31}};
         for (int degree = 0; degree < 3; degree++) {
             Check.form(x, degree, degree, numbers[degree]);
@@ -191,7 +183,7 @@ public final class FormsTest {
     }
 
     private static void cupBeyond() {
-        NetForms x = kite();
+        NetForms x = Nets.kite();
         Check.form(x, 0, 0, 1000, 0, 0, -1000);
         check.due("cup(0, 0, 1) just within", x.cup(0, 0, 1), 0);
         check.dueForm("cup(0, 0, 1)", x, 1, 0, MILLION, 0, 0, MILLION);
@@ -207,7 +199,7 @@ public final class FormsTest {
     }
 
     private static void mix() {
-        NetForms x = kite();
+        NetForms x = Nets.kite();
         Check.form(x, 0, 1, 1, 2, 3, 4, 5);
         Check.form(x, 1, 1, 10, -20, 30, -40, 1000);
         check.due("mix(0, 7, 1, -3, 2)", x.mix(0, 7, 1, -3, 2), 1);
@@ -237,7 +229,7 @@ public final class FormsTest {
     }
 
     private static void about() {
-        NetForms x = kite();
+        NetForms x = Nets.kite();
         Check.form(x, 1, 1, 0, 0, 0, 0, 1);
         Check.form(x, 2, 2, 0, 3);
         Check.form(x, 3, 0, 4, 4, 4, 4);
