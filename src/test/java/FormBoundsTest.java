@@ -34,10 +34,13 @@ public final class FormBoundsTest {
         s.test("mix: onto one of its own", FormBoundsTest::mixOntoItself);
         s.test("mix: NO: their DEGREES differ", FormBoundsTest::degreesDiffer);
         s.test("mix: BEYOND", FormBoundsTest::mixBeyond);
+        s.test("slope, rim, cup, mix: of a full net", FormBoundsTest::fullNet);
         s.test("about: BAD", FormBoundsTest::badAbout);
         s.test("about: whether all its numbers are 0", FormBoundsTest::allZero);
         s.test("about: whether its SLOPE is 0 everywhere (DEGREE 2: all are)", FormBoundsTest::slopeIsZero);
         s.test("about: whether its RIM is (DEGREE 0: 1)", FormBoundsTest::rimIsZero);
+        s.test("about: everywhere, at the last EDGE and POINT too", FormBoundsTest::lastOnesCount);
+        s.test("about: whatever was told ahead of it", FormBoundsTest::aboutForgets);
         s.end();
     }
 
@@ -499,6 +502,48 @@ public final class FormBoundsTest {
         return x;
     }
 
+    /** Edges 01 02 03 04 12 13 14 23 24 34 05 15 have 1 .. 12, the plates 012, 013, .. have 1 .. 10, the points 1 .. 6. */
+    private static NetForms counted() {
+        NetForms x = Nets.allPlates();
+        Check.form(x, 0, 0, 1, 2, 3, 4, 5, 6);
+        Check.form(x, 1, 1, 1, 2, 3, 4, 5, 6, 7, 8, 9, 10, 11, 12);
+        Check.form(x, 2, 2, 1, 2, 3, 4, 5, 6, 7, 8, 9, 10);
+        return x;
+    }
+
+    private static void fullNet(Check check) {
+        NetForms x = counted();
+        check.due("slope(0, 3)", x.slope(0, 3), 1);
+        check.dueForm("slope(0, 3)", x, 3, 1, 1, 2, 3, 4, 1, 2, 3, 1, 2, 1, 5, 4);
+        check.due("slope(1, 3)", x.slope(1, 3), 2);
+        check.dueForm("slope(1, 3)", x, 3, 2, 4, 4, 4, 7, 7, 9, 7, 7, 9, 9);
+        check.due("rim(1, 3)", x.rim(1, 3), 0);
+        check.dueForm("rim(1, 3)", x, 3, 0, -21, -29, -10, 7, 30, 23);
+        check.due("rim(2, 3)", x.rim(2, 3), 1);
+        check.dueForm("rim(2, 3)", x, 3, 1, 6, 8, 0, -14, 16, 4, -14, 21, 3, 25, 0, 0);
+        check.due("cup(0, 1, 3)", x.cup(0, 1, 3), 1);
+        check.dueForm("cup(0, 1, 3)", x, 3, 1, 1, 2, 3, 4, 10, 12, 14, 24, 27, 40, 11, 24);
+        check.due("cup(1, 0, 3)", x.cup(1, 0, 3), 1);
+        check.dueForm("cup(1, 0, 3)", x, 3, 1, 2, 6, 12, 20, 15, 24, 35, 32, 45, 50, 66, 72);
+        check.due("cup(1, 1, 3)", x.cup(1, 1, 3), 2);
+        check.dueForm("cup(1, 1, 3)", x, 3, 2, 5, 6, 7, 16, 18, 30, 40, 45, 60, 80);
+        check.due("cup(0, 2, 3)", x.cup(0, 2, 3), 2);
+        check.dueForm("cup(0, 2, 3)", x, 3, 2, 1, 2, 3, 4, 5, 6, 14, 16, 18, 30);
+        check.due("cup(2, 0, 3)", x.cup(2, 0, 3), 2);
+        check.dueForm("cup(2, 0, 3)", x, 3, 2, 3, 8, 15, 16, 25, 30, 28, 40, 45, 50);
+        check.due("cup(0, 0, 3)", x.cup(0, 0, 3), 0);
+        check.dueForm("cup(0, 0, 3)", x, 3, 0, 1, 4, 9, 16, 25, 36);
+        int[] sizes = {6, 12, 10};
+        for (int f = 0; f < 3; f++) {
+            int[] due = new int[sizes[f]];
+            for (int k = 0; k < due.length; k++) {
+                due[k] = -2 * (k + 1);
+            }
+            check.due("mix(" + f + ", 3, " + f + ", -5, 3)", x.mix(f, 3, f, -5, 3), f);
+            check.dueForm("mix(" + f + ", 3, " + f + ", -5, 3)", x, 3, f, due);
+        }
+    }
+
     private static void badAbout(Check check) {
         for (int what : Refusal.outside(0, 3)) {
             for (int f = 0; f < 3; f++) {
@@ -581,5 +626,38 @@ public final class FormBoundsTest {
         y.form(1, 2);
         check.due("about(0, 3) without edges", y.about(0, 3), 1);
         check.due("about(1, 3) without plates", y.about(1, 3), 1);
+    }
+
+    /** The only edge that has a number, and the only plate, stand behind all others. */
+    private static void lastOnesCount(Check check) {
+        NetForms x = Check.net(6, 4, 5);
+        Check.form(x, 0, 1, 3);
+        check.due("about(0, 3), at the last points alone", x.about(0, 3), 0);
+        NetForms y = Check.net(6, 0, 1, 1, 2, 2, 3, 3, 4, 4, 5, 3, 5);
+        y.face(3, 4, 5);
+        Check.form(y, 0, 2, 3);
+        check.due("about(0, 3), at the last edges alone", y.about(0, 3), 0);
+        Check.form(y, 1, 1, 0, 0, 0, 0, 0, 3);
+        check.due("about(1, 2), the last edge alone", y.about(1, 2), 0);
+        Check.form(y, 2, 0, 3, 3, 3, 3, 3, 4);
+        check.due("about(2, 2), the last point alone", y.about(2, 2), 0);
+    }
+
+    /** What other calls told, or refused as beyond, does not count here. */
+    private static void aboutForgets(Check check) {
+        NetForms x = Nets.allPlates();
+        x.form(0, 0);
+        x.form(1, 1);
+        x.form(2, 2);
+        x.form(4, 1);
+        for (int e = 0; e < 12; e++) {
+            x.set(4, e, 1000000);
+        }
+        for (int f = 0; f < 3; f++) {
+            for (int what = 1; what < 4; what++) {
+                check.due("mix(4, 2, 4, 2, 5)", x.mix(4, 2, 4, 2, 5), BEYOND);
+                check.due("about(" + f + ", " + what + ") behind it", x.about(f, what), 1);
+            }
+        }
     }
 }
