@@ -9,7 +9,8 @@ public final class AnyNumbersTest {
     private static final int[] NUMBERS = {Integer.MIN_VALUE, -1000001, -101, -1, 0, 1, 2, 5, 6, 11, 12, 101, 1000001,
         Integer.MAX_VALUE};
     private static final int[] FEWER = {Integer.MIN_VALUE, -1, 0, 1, 4, 12, 1001, Integer.MAX_VALUE};
-    private static final int CALLS = 400;
+    /** Three calls for each of these and the making of the net stay within the 512 calls of an object. */
+    private static final int ROUNDS = 140;
     private static final Set<String> TELLING = Set.of("corner", "get", "about", "holes", "split", "field", "fieldAt",
         "height", "flow", "sum", "count", "digest");
     private static final Set<String> CHANGING = Set.of("net", "edge", "face", "form", "slope", "rim", "cup", "mix", "wall",
@@ -36,7 +37,7 @@ public final class AnyNumbersTest {
         }
         NetForms x = null;
         for (int n = 0; n < all; n++) {
-            x = n % (CALLS / 2) == 0 ? net.get() : x;
+            x = n % ROUNDS == 0 ? net.get() : x;
             Object[] values = new Object[takes];
             int rest = n;
             for (int i = 0; i < takes; i++) {

@@ -5,6 +5,7 @@ import java.lang.reflect.Method;
 import java.lang.reflect.Modifier;
 import java.nio.file.Files;
 import java.nio.file.Path;
+import java.util.List;
 import java.util.Set;
 import java.util.TreeSet;
 
@@ -27,6 +28,11 @@ public final class FaceTest {
         constants();
         constructors();
         nestedClasses();
+        sizes(NetForms.class);
+        for (Class<?> c : NetForms.class.getDeclaredClasses()) {
+            sizes(c);
+        }
+        lengths();
         words();
         check.end();
     }
@@ -85,10 +91,42 @@ public final class FaceTest {
     }
 
     private static void nestedClasses() {
+        check.due("at most twelve classes", NetForms.class.getDeclaredClasses().length < 12 ? 1 : 0, 1);
         for (Class<?> c : NetForms.class.getDeclaredClasses()) {
             boolean isHidden = !Modifier.isPublic(c.getModifiers()) && !Modifier.isProtected(c.getModifiers());
             check.due(c + " is static and not public", isHidden && Modifier.isStatic(c.getModifiers()) ? 1 : 0, 1);
         }
+    }
+
+    /** Rules 5 and 11: no static state, few fields, few parameters. */
+    private static void sizes(Class<?> c) {
+        int fields = 0;
+        for (Field f : c.getDeclaredFields()) {
+            boolean isStatic = Modifier.isStatic(f.getModifiers());
+            boolean isConstant = Modifier.isFinal(f.getModifiers()) && f.getType() == int.class;
+            check.due(f + " is a constant if static", !isStatic || isConstant ? 1 : 0, 1);
+            fields += isStatic ? 0 : 1;
+        }
+        check.due(c + " has at most twenty fields", fields <= 20 ? 1 : 0, 1);
+        for (Method m : c.getDeclaredMethods()) {
+            check.due(m + " takes at most seven", m.getParameterCount() <= 7 ? 1 : 0, 1);
+        }
+    }
+
+    /** Rule 11: a method begins behind one or two steps of four blanks, and ends at the brace below its first letter. */
+    private static void lengths() throws IOException {
+        List<String> lines = Files.readAllLines(Path.of("src/main/java/NetForms.java"));
+        int methods = 0;
+        for (int i = 0; i < lines.size(); i++) {
+            String line = lines.get(i);
+            String blanks = line.substring(0, line.length() - line.stripLeading().length());
+            if (blanks.length() <= 8 && line.matches(" +(\\w+ )+\\w+\\(.*\\) \\{")) {
+                int end = i + lines.subList(i, lines.size()).indexOf(blanks + "}");
+                check.due("at most sixty lines: " + line.trim(), end > i && end - i < 60 ? 1 : 0, 1);
+                methods++;
+            }
+        }
+        check.due("the methods were found", methods > 26 ? 1 : 0, 1);
     }
 
     private static void words() throws IOException {

@@ -1,6 +1,8 @@
 /** Nets that several tests begin with. */
 final class Nets {
     static final int MILLION = 1000000;
+    /** All edges of five points, as pairs. */
+    static final int[] FIVE_POINTS = {0, 1, 0, 2, 0, 3, 0, 4, 1, 2, 1, 3, 1, 4, 2, 3, 2, 4, 3, 4};
 
     private Nets() {
     }

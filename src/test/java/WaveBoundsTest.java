@@ -1,9 +1,9 @@
 import java.math.BigInteger;
-import java.util.Arrays;
 
 /** The sentences on the wave that name a boundary case: promises 21 to 25. */
 public final class WaveBoundsTest {
     private static final int BAD = NetForms.BAD, NO = NetForms.NO;
+    private static final int[] GREAT = {1000000, -3, 17, 0, 5};
 
     public static void main(String[] args) {
         Sentences s = new Sentences();
@@ -147,8 +147,8 @@ public final class WaveBoundsTest {
 
     /** Where five points have all their edges the wave grows without end: behind 100 steps it has long outgrown a long. */
     private static NetForms grown(int steps) {
-        NetForms x = Check.net(5, 0, 1, 0, 2, 0, 3, 0, 4, 1, 2, 1, 3, 1, 4, 2, 3, 2, 4, 3, 4);
-        Check.form(x, 0, 0, 1000000, -3, 17, 0, 5);
+        NetForms x = Check.net(5, Nets.FIVE_POINTS);
+        Check.form(x, 0, 0, GREAT);
         x.raise(0);
         if (steps > 0) {
             x.wave(steps);
@@ -156,47 +156,28 @@ public final class WaveBoundsTest {
         return x;
     }
 
-    private static BigInteger[][] trueWave(NetForms x, int steps) {
-        BigInteger[] heights = new BigInteger[5];
-        BigInteger[] flows = new BigInteger[10];
-        Arrays.fill(flows, BigInteger.ZERO);
-        for (int p = 0; p < 5; p++) {
-            heights[p] = BigInteger.valueOf(x.get(0, p));
-        }
-        for (int i = 0; i < steps; i++) {
-            for (int e = 0; e < 10; e++) {
-                flows[e] = flows[e].add(heights[x.corner(1, e, 0)]).subtract(heights[x.corner(1, e, 1)]);
-            }
-            for (int e = 0; e < 10; e++) {
-                int a = x.corner(1, e, 0);
-                int b = x.corner(1, e, 1);
-                heights[a] = heights[a].subtract(flows[e]);
-                heights[b] = heights[b].add(flows[e]);
-            }
-        }
-        return new BigInteger[][] {heights, flows};
-    }
-
     /** Up to some steps the numbers are the true ones, far above an int; then they wrap. */
     private static void heightsWrap(Check check) {
         for (int steps : new int[] {12, 30, 45, 100}) {
-            NetForms x = grown(steps);
-            BigInteger[] heights = trueWave(grown(0), steps)[0];
-            check.due("the true height is above a long", heights[0].bitLength() > 63 ? 1 : 0, steps >= 45 ? 1 : 0);
-            for (int p = 0; p < 5; p++) {
-                check.due("wave(" + steps + "): height(" + p + ")", x.height(p), heights[p].longValue());
-            }
+            dueTrue(check, "height", new TrueWave(Nets.FIVE_POINTS, GREAT).step(steps).heights, steps, NetForms::height);
         }
     }
 
     private static void flowsWrap(Check check) {
         for (int steps : new int[] {12, 30, 45, 100}) {
-            NetForms x = grown(steps);
-            BigInteger[] flows = trueWave(grown(0), steps)[1];
-            check.due("the true flow is above a long", flows[0].bitLength() > 63 ? 1 : 0, steps >= 45 ? 1 : 0);
-            for (int e = 0; e < 10; e++) {
-                check.due("wave(" + steps + "): flow(" + e + ")", x.flow(e), flows[e].longValue());
-            }
+            dueTrue(check, "flow", new TrueWave(Nets.FIVE_POINTS, GREAT).step(steps).flows, steps, NetForms::flow);
+        }
+    }
+
+    private interface Teller {
+        long tell(NetForms x, int k);
+    }
+
+    private static void dueTrue(Check check, String name, BigInteger[] due, int steps, Teller teller) {
+        NetForms x = grown(steps);
+        check.due("the true " + name + " is above a long", due[0].bitLength() > 63 ? 1 : 0, steps >= 45 ? 1 : 0);
+        for (int k = 0; k < due.length; k++) {
+            check.due("wave(" + steps + "): " + name + "(" + k + ")", teller.tell(x, k), due[k].longValue());
         }
     }
 

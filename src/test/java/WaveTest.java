@@ -1,5 +1,3 @@
-import java.math.BigInteger;
-
 /** Promises 21 to 25: wave, raise, height, flow, sum. */
 public final class WaveTest {
     private static final int MIN = Integer.MIN_VALUE, MAX = Integer.MAX_VALUE;
@@ -92,43 +90,22 @@ public final class WaveTest {
 
     /** Where five points have all their edges the wave grows without end. */
     private static void wrapping() {
-        NetForms x = Check.net(5, 0, 1, 0, 2, 0, 3, 0, 4, 1, 2, 1, 3, 1, 4, 2, 3, 2, 4, 3, 4);
+        NetForms x = Check.net(5, Nets.FIVE_POINTS);
         Check.form(x, 0, 0, 1000000, -3, 17, 0, 5);
-        BigInteger[] heights = new BigInteger[5];
-        BigInteger[] flows = new BigInteger[10];
-        for (int p = 0; p < 5; p++) {
-            heights[p] = BigInteger.valueOf(x.get(0, p));
-        }
-        java.util.Arrays.fill(flows, BigInteger.ZERO);
         x.raise(0);
         long before = x.digest();
         check.due("wave(100)", x.wave(100), 100);
-        for (int i = 0; i < 100; i++) {
-            bigStep(x, heights, flows);
-        }
-        check.due("the true height has outgrown a long", heights[0].bitLength() > 64 ? 1 : 0, 1);
+        TrueWave due = new TrueWave(Nets.FIVE_POINTS, 1000000, -3, 17, 0, 5).step(100);
+        check.due("the true height has outgrown a long", due.heights[0].bitLength() > 64 ? 1 : 0, 1);
         for (int p = 0; p < 5; p++) {
-            check.due("wave(100): height(" + p + ")", x.height(p), heights[p].longValue());
+            check.due("wave(100): height(" + p + ")", x.height(p), due.heights[p].longValue());
         }
         for (int e = 0; e < 10; e++) {
-            check.due("wave(100): flow(" + e + ")", x.flow(e), flows[e].longValue());
+            check.due("wave(100): flow(" + e + ")", x.flow(e), due.flows[e].longValue());
         }
         check.due("wave(100): sum()", x.sum(), 1000019);
         check.due("wave(-100)", x.wave(-100), 0);
         check.due("wave(-100): digest()", x.digest(), before);
-    }
-
-    private static void bigStep(NetForms x, BigInteger[] heights, BigInteger[] flows) {
-        for (int e = 0; e < flows.length; e++) {
-            BigInteger fall = heights[x.corner(1, e, 0)].subtract(heights[x.corner(1, e, 1)]);
-            flows[e] = flows[e].add(fall);
-        }
-        for (int e = 0; e < flows.length; e++) {
-            int a = x.corner(1, e, 0);
-            int b = x.corner(1, e, 1);
-            heights[a] = heights[a].subtract(flows[e]);
-            heights[b] = heights[b].add(flows[e]);
-        }
     }
 
     private static void refused() {
